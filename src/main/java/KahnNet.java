@@ -59,9 +59,9 @@ public final class KahnNet {
         if (isWritten(c)) {
             return TAKEN;
         }
-        increments[count] = q;
-        amounts[count] = n;
         int added = add(SOURCE, NO_PORT, NO_PORT, c, NO_PORT, p);
+        increments[added] = q;
+        amounts[added] = n;
         run();
         return added;
     }

@@ -165,6 +165,12 @@ public final class StreamsTest {
         give(net, 2, 1, 8, 1);
         add(net, KahnNet.PAIRS, 2030, 0);
         Check.stream("PAIRS of one int", net, 3);
+        net.clear();
+        give(net, 0, 7, 1, 1);
+        add(net, KahnNet.SUMS, 10, 0);
+        add(net, KahnNet.PAIRS, 1020, 0);
+        Check.stream("PAIRS of 1 3, 6 10, 15 21 and a 28", net, 2, -2, -4, -6);
+        net.clear();
         give(net, 4, 4, LEAST, 1);
         add(net, KahnNet.FIRST, 4050, GREATEST);
         add(net, KahnNet.PAIRS, 5060, 0);
