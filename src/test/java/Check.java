@@ -8,6 +8,22 @@ final class Check {
     private Check() {
     }
 
+    /** Runs the test of one sentence of the document; the words are the document's, " .. " stands for a gap. */
+    static void says(String words, Runnable test) {
+        int askedBefore = asked;
+        int wrongBefore = wrong;
+        try {
+            test.run();
+        } catch (RuntimeException thrown) {
+            // No call may throw; the other sentences are still to be tested.
+            holds("no call throws, but one threw " + thrown, false);
+        }
+        holds("the test of this sentence asks something: " + words, asked > askedBefore);
+        if (wrong > wrongBefore) {
+            System.out.println("BROKEN: " + words);
+        }
+    }
+
     static void due(String what, long got, long want) {
         asked++;
         if (got != want) {

@@ -3,7 +3,10 @@ import java.util.Random;
 /** Long runs of calls, each answer held against that of NetModel, which runs the network with small buffers. */
 public final class ModelTest {
     private static final int RUNS = 4000;
-    private static final int CALLS = 511;
+    /** As many calls as the document allows on one object. */
+    private static final int MOST_CALLS = 512;
+    /** So few that all ints of all streams can be looked at afterwards within the calls that are allowed. */
+    private static final int FEW_CALLS = 60;
     private static final int[] EDGES = {Integer.MIN_VALUE, -2, -1, 0, 1, 2, 3, 1 << 30, Integer.MAX_VALUE};
 
     private ModelTest() {
@@ -22,9 +25,13 @@ public final class ModelTest {
         int buffer = random.nextInt(10) - 1;
         KahnNet net = new KahnNet(buffer);
         NetModel model = new NetModel(buffer);
-        int calls = run % 50 == 0 ? CALLS : 60;
-        for (int call = 0; call < calls && !Check.anyWrong(); call++) {
+        boolean isLong = run % 50 == 0;
+        int calls = isLong ? MOST_CALLS : FEW_CALLS;
+        for (int call = 1; call <= calls && !Check.anyWrong(); call++) {
             oneCall("run " + run + ", call " + call + ": ", random, net, model);
+        }
+        for (int c = 0; c < 10 && !isLong; c++) {
+            Check.stream("run " + run + ", after its calls", net, c, model.stream(c));
         }
     }
 
@@ -49,6 +56,8 @@ public final class ModelTest {
             case 9 -> {
                 if (random.nextInt(3) == 0) {
                     Check.due(where + "clear()", net.clear(), model.clear());
+                } else {
+                    Check.due(where + "processes()", net.processes(), model.processes());
                 }
             }
             case 10, 11, 12 -> Check.due(where + "length(" + x + ")", net.length(x), model.length(x));
@@ -56,15 +65,9 @@ public final class ModelTest {
                 int k = random.nextInt(20) == 0 ? edge(random) : random.nextInt(22);
                 Check.due(where + "at(" + x + ", " + k + ")", net.at(x, k), model.at(x, k));
             }
-            case 16 -> Check.due(where + "processes()", net.processes(), model.processes());
-            case 17 -> Check.due(where + "total()", net.total(), model.total());
-            case 18 -> Check.due(where + "firstDifference(" + x + ", " + y + ")",
+            case 16, 17 -> Check.due(where + "total()", net.total(), model.total());
+            default -> Check.due(where + "firstDifference(" + x + ", " + y + ")",
                 net.firstDifference(x, y), model.firstDifference(x, y));
-            default -> {
-                for (int c = 0; c < 10; c++) {
-                    Check.stream(where + "all of the stream", net, c, model.stream(c));
-                }
-            }
         }
     }
 
