@@ -130,16 +130,16 @@ public final class KindsTest {
 
     private static void picks() {
         int[] ints = Nets.row(12, -6, 1);
-        check(ints, 0, ints);
-        check(ints, 1, -6, -4, -2, 0, 2, 4);
-        check(ints, -1, 0);
-        check(ints, LEAST, 0, 1, 2, 3, 4, 5);
-        check(ints, GREATEST, 0);
-        check(Nets.row(12, 1, 2), 1);
-        check(Nets.row(0, 1, 2), 0);
-        check(Nets.row(2, LEAST, LEAST), GREATEST, LEAST, 0);
-        check(Nets.row(2, LEAST, LEAST), LEAST, 0);
-        check(Nets.row(12, 0, 1), 6, 0, 1, 8, 9);
+        checkPick(ints, 0, ints);
+        checkPick(ints, 1, -6, -4, -2, 0, 2, 4);
+        checkPick(ints, -1, 0);
+        checkPick(ints, LEAST, 0, 1, 2, 3, 4, 5);
+        checkPick(ints, GREATEST, 0);
+        checkPick(Nets.row(12, 1, 2), 1);
+        checkPick(Nets.row(0, 1, 2), 0);
+        checkPick(Nets.row(2, LEAST, LEAST), GREATEST, LEAST, 0);
+        checkPick(Nets.row(2, LEAST, LEAST), LEAST, 0);
+        checkPick(Nets.row(12, 0, 1), 6, 0, 1, 8, 9);
         KahnNet net = new KahnNet(1);
         Nets.add(net, KahnNet.PICK, 10, 0);
         Check.stream("PICK of what no process writes", net, 1);
@@ -153,19 +153,17 @@ public final class KindsTest {
     private static void picksByBits() {
         for (int bit = 0; bit < 32; bit++) {
             int m = 1 << bit;
-            check(new int[] {m, 0}, m, 0);
-            check(new int[] {m, 0}, ~m, m, 0);
-            check(new int[] {~m, m}, m, ~m);
-            check(new int[] {~m, m}, -1);
+            checkPick(new int[] {m, 0}, m, 0);
+            checkPick(new int[] {m, 0}, ~m, m, 0);
+            checkPick(new int[] {~m, m}, m, ~m);
+            checkPick(new int[] {~m, m}, -1);
         }
     }
 
     /** PICK of a row of ints, as a SOURCE gives it, writes these. */
-    private static void check(int[] ints, int m, int... due) {
+    private static void checkPick(int[] ints, int m, int... due) {
         KahnNet net = new KahnNet(1);
-        int p = ints.length > 0 ? ints[0] : 0;
-        int q = ints.length > 1 ? ints[1] - ints[0] : 0;
-        Nets.give(net, 0, ints.length, p, q);
+        giveRow(net, 0, ints);
         Nets.add(net, KahnNet.PICK, 10, m);
         Check.stream("PICK of " + Arrays.toString(ints) + " by " + m, net, 1, due);
     }
@@ -173,8 +171,8 @@ public final class KindsTest {
     private static void joinLengths() {
         for (int n = 0; n <= 12; n++) {
             for (int m = 0; m <= 12; m++) {
-                checkJoin(Nets.row(n, 1, 3), Nets.row(m, 2, 2), false);
-                checkJoin(Nets.row(n, 4, 2), Nets.row(m, 1, 1), false);
+                checkMerge(Nets.row(n, 1, 3), Nets.row(m, 2, 2));
+                checkMerge(Nets.row(n, 4, 2), Nets.row(m, 1, 1));
             }
         }
         KahnNet net = new KahnNet(1);
@@ -207,44 +205,47 @@ public final class KindsTest {
 
     /** The next ints alone count, also where smaller ones follow. */
     private static void joinFallingInts() {
-        checkJoin(Nets.row(3, 9, -4), Nets.row(2, 6, 1), true, 6, 7);
-        checkJoin(Nets.row(2, 6, 1), Nets.row(3, 9, -4), true, 6, 7);
-        checkJoin(Nets.row(3, 9, -4), Nets.row(3, 8, 1), true, 8, 9, 5, 1);
-        checkJoin(Nets.row(3, 8, 1), Nets.row(3, 9, -4), true, 8, 9, 9, 5, 1);
-        checkJoin(Nets.row(2, 1, -5), Nets.row(2, 1, -5), true, 1, -4);
+        checkJoin(Nets.row(3, 9, -4), Nets.row(2, 6, 1), 6, 7);
+        checkJoin(Nets.row(2, 6, 1), Nets.row(3, 9, -4), 6, 7);
+        checkJoin(Nets.row(3, 9, -4), Nets.row(3, 8, 1), 8, 9, 5, 1);
+        checkJoin(Nets.row(3, 8, 1), Nets.row(3, 9, -4), 8, 9, 9, 5, 1);
+        checkJoin(Nets.row(2, 1, -5), Nets.row(2, 1, -5), 1, -4);
     }
 
     private static void joinEqualInts() {
         // Were those of b taken first, b would end, and its amount would be seen instead.
         for (int n = 1; n <= 12; n++) {
             for (int m = 1; m <= 12; m++) {
-                checkJoin(Nets.row(n, 5, 0), Nets.row(m, 5, 0), true, Nets.row(n, 5, 0));
+                checkJoin(Nets.row(n, 5, 0), Nets.row(m, 5, 0), Nets.row(n, 5, 0));
             }
         }
-        checkJoin(Nets.row(3, 1, 1), Nets.row(3, 3, 0), true, 1, 2, 3);
-        checkJoin(Nets.row(3, 3, 0), Nets.row(3, 1, 1), true, 1, 2, 3, 3, 3);
-        checkJoin(Nets.row(2, GREATEST, 0), Nets.row(1, GREATEST, 0), true, GREATEST, GREATEST);
-        checkJoin(Nets.row(1, LEAST, 0), Nets.row(2, LEAST, 0), true, LEAST);
+        checkJoin(Nets.row(3, 1, 1), Nets.row(3, 3, 0), 1, 2, 3);
+        checkJoin(Nets.row(3, 3, 0), Nets.row(3, 1, 1), 1, 2, 3, 3, 3);
+        checkJoin(Nets.row(2, GREATEST, 0), Nets.row(1, GREATEST, 0), GREATEST, GREATEST);
+        checkJoin(Nets.row(1, LEAST, 0), Nets.row(2, LEAST, 0), LEAST);
     }
 
     private static void joinEnds() {
-        checkJoin(Nets.row(1, 1, 0), Nets.row(3, 5, 1), true, 1);
-        checkJoin(Nets.row(3, 5, 1), Nets.row(1, 1, 0), true, 1);
-        checkJoin(Nets.row(12, 1, 1), Nets.row(12, 20, 1), true, Nets.row(12, 1, 1));
-        checkJoin(Nets.row(12, 20, 1), Nets.row(12, 1, 1), true, Nets.row(12, 1, 1));
-        checkJoin(Nets.row(0, 1, 1), Nets.row(12, 1, 1), true);
-        checkJoin(Nets.row(12, 1, 1), Nets.row(0, 1, 1), true);
-        checkJoin(Nets.row(0, 1, 1), Nets.row(0, 1, 1), true);
+        checkJoin(Nets.row(1, 1, 0), Nets.row(3, 5, 1), 1);
+        checkJoin(Nets.row(3, 5, 1), Nets.row(1, 1, 0), 1);
+        checkJoin(Nets.row(12, 1, 1), Nets.row(12, 20, 1), Nets.row(12, 1, 1));
+        checkJoin(Nets.row(12, 20, 1), Nets.row(12, 1, 1), Nets.row(12, 1, 1));
+        checkJoin(Nets.row(0, 1, 1), Nets.row(12, 1, 1));
+        checkJoin(Nets.row(12, 1, 1), Nets.row(0, 1, 1));
+        checkJoin(Nets.row(0, 1, 1), Nets.row(0, 1, 1));
     }
 
-    /** JOIN of two rows writes what is due, which is told or else what a plain merge gives. */
-    private static void checkJoin(int[] a, int[] b, boolean isTold, int... told) {
+    /** JOIN of two rows of ints, as a SOURCE gives each, writes these. */
+    private static void checkJoin(int[] a, int[] b, int... due) {
         KahnNet net = new KahnNet(1);
         giveRow(net, 0, a);
         giveRow(net, 1, b);
         Nets.add(net, KahnNet.JOIN, 120, 0);
-        Check.stream("JOIN of " + Arrays.toString(a) + " and " + Arrays.toString(b), net, 2,
-            isTold ? told : Nets.cut(merge(a, b)));
+        Check.stream("JOIN of " + Arrays.toString(a) + " and " + Arrays.toString(b), net, 2, due);
+    }
+
+    private static void checkMerge(int[] a, int[] b) {
+        checkJoin(a, b, Nets.cut(merge(a, b)));
     }
 
     private static void giveRow(KahnNet net, int c, int[] ints) {
