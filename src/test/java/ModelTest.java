@@ -79,7 +79,13 @@ public final class ModelTest {
         return EDGES[random.nextInt(EDGES.length)];
     }
 
+    /** Mostly small ones, so that streams meet; the others show a number that has a part where it should not. */
     private static int number(Random random) {
-        return random.nextInt(4) == 0 ? edge(random) : random.nextInt(9) - 3;
+        return switch (random.nextInt(8)) {
+            case 0, 1 -> edge(random);
+            case 2, 3 -> random.nextInt(65) - 32;
+            case 4 -> random.nextInt();
+            default -> random.nextInt(9) - 3;
+        };
     }
 }

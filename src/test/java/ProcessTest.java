@@ -81,6 +81,8 @@ public final class ProcessTest {
             for (int kind = KahnNet.COPY; kind <= KahnNet.PAIRS; kind++) {
                 if (kind != KahnNet.FIRST && kind != KahnNet.PICK) {
                     KahnNet net = new KahnNet(1);
+                    // That of another process plays no part either.
+                    Nets.add(net, KahnNet.FIRST, 9090, number);
                     Nets.give(net, 0, 5, 1, 1);
                     Nets.give(net, 1, 4, 2, 1);
                     Nets.add(net, kind, 123, number);
